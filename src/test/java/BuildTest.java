@@ -216,6 +216,8 @@ public final class BuildTest {
         check.exits(x, new int[][] {{0, 2, 0, 1, 2}, {1, 1, 0, 2, 0}, {2, 0, 2, 0, 0}});
         x.run(1, 2, 3);
         check.due("before clear: last(0)", x.last(0), 7);
+        check.due("before clear: count(1)", x.count(1), 3);
+        check.due("before clear: count(3)", x.count(3), 2);
         check.due("clear", x.clear(), 3);
         check.due("clear again", x.clear(), 0);
         for (int what = 0; what < 4; what++) {

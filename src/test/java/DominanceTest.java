@@ -16,6 +16,7 @@ public final class DominanceTest {
         oneHeadTwoWaysBack();
         mergesOfMerges();
         mergesWithoutASetter();
+        askedRightAfterAChange();
         check.end();
     }
 
@@ -200,5 +201,19 @@ public final class DominanceTest {
         merges(x, "set in 0", 0, 0, 0);
         x.add(1, 1, 3, 3, 0);
         merges(x, "set in 1", 0, 8, 0);
+    }
+
+    private static void askedRightAfterAChange() {
+        FlowSolver x = Check.blocks(3);
+        x.exit(0, 1, 0, 1, 0);
+        x.exit(1, 1, 0, 2, 0);
+        check.due("asked first", x.dominates(1, 2), true);
+        x.exit(0, 2, 0, 1, 2);
+        check.due("a way round", x.dominates(1, 2), false);
+        x.exit(0, 1, 0, 2, 0);
+        check.due("1 is not met any more", x.dominates(1, 1), false);
+        check.due("and dominates nothing", x.dominates(1, 2), false);
+        check.due("and has no parent", x.parent(1), -1);
+        check.due("and no frontier", x.frontier(1), 0);
     }
 }

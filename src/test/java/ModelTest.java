@@ -65,7 +65,7 @@ public final class ModelTest {
     }
 
     private void build() {
-        int wanted = below(6) == 0 ? 17 : 1 + below(16);
+        int wanted = below(6) == 0 ? 17 : below(17);
         for (int n = 0; n < wanted && made < CALLS; n++) {
             addBlock();
         }

@@ -86,7 +86,7 @@ public final class UsesTest {
         lives(x, "after", 17, 0, 16, 32);
         x.add(0, 7, 4, 0, 0);
         lives(x, "set in 0", 1, 0, 16, 32);
-        // a long way, against the numbers
+        // a long way, with ways back
         FlowSolver y = Check.blocks(16);
         y.exit(0, 1, 0, 1, 0);
         for (int b = 1; b < 15; b++) {
@@ -94,6 +94,16 @@ public final class UsesTest {
         }
         y.exit(15, 0, 5, 0, 0);
         check.due("a long way", y.lives(0), 35);
+        FlowSolver z = Check.blocks(16);
+        z.exit(0, 1, 0, 15, 0);
+        for (int b = 15; b > 1; b--) {
+            z.exit(b, 1, 0, b - 1, 0);
+        }
+        z.exit(1, 0, 4, 0, 0);
+        z.add(0, 0, 4, 1, 0);
+        check.due("a long way against the numbers", z.lives(15), 16);
+        check.due("set before that way", z.lives(0), 0);
+        check.due("needed at its end", z.needed(0), 1);
     }
 
     private static void livesInBlocksThatAreNotMet() {

@@ -15,6 +15,7 @@ public final class ValuesTest {
         sameConstantFromAll();
         branchOnAConstant();
         branchWithBothEdgesToOne();
+        longWayAgainstTheNumbers();
         loopThatStaysConstant();
         loopThatVaries();
         edgeThatOpensLate();
@@ -176,6 +177,21 @@ public final class ValuesTest {
         counts(x, "what varies opens both", 2, 2, 2, 2);
         x.add(0, 0, 0, 9, 0);
         counts(x, "the constant at the end counts", 2, 2, 2, 1);
+    }
+
+    private static void longWayAgainstTheNumbers() {
+        // each takes its else edge to the block below; each then edge stays closed
+        FlowSolver x = Check.blocks(16);
+        x.exit(0, 2, 0, 1, 15);
+        for (int b = 15; b > 1; b--) {
+            x.exit(b, 2, 0, b, b - 1);
+        }
+        x.add(0, 0, 5, 55, 0);
+        value(x, 1, 5, true, 55);
+        counts(x, "against the numbers", 16, 16, 30, 15);
+        x.parameters(1);
+        value(x, 1, 5, true, 55);
+        counts(x, "against the numbers, all open", 16, 16, 30, 30);
     }
 
     private static void loopThatStaysConstant() {
