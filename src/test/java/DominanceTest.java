@@ -156,6 +156,11 @@ public final class DominanceTest {
         frontiers(x, "nested", 0, 2, 6, 4, 2, 0);
         merges(x, "nested", 0, 6, 2, 0, 0, 0);
         depths(x, "nested", 0, 1, 2, 2, 1, 0);
+        // a block that is not met is in no loop, though it leads into the midst of both
+        x.block();
+        x.exit(6, 2, 0, 3, 4);
+        depths(x, "nested, from outside", 0, 1, 2, 2, 1, 0, 0);
+        parents(x, "nested, from outside", -1, 0, 1, 2, 2, 1, -1);
     }
 
     private static void twoWaysIntoACircle() {
