@@ -1,5 +1,9 @@
+import java.util.stream.IntStream;
+
 /** Counts the answers that are not the ones that are due; what the tests of the project share. */
 final class Check {
+    static final int LOW = Integer.MIN_VALUE;
+    static final int HIGH = Integer.MAX_VALUE;
     private static final int SHOWN = 40;
     private int answers = 0;
     private int wrong = 0;
@@ -35,6 +39,18 @@ final class Check {
         System.out.println("all " + answers + " answers are as due");
     }
 
+    /**
+     * Ints that are not in 0..n - 1: the nearest ones, the greatest and the least, and some that a
+     * shift or a mask would take for one that is.
+     */
+    static int[] outside(int n) {
+        IntStream near = IntStream.of(-1, n, n + 1, -n - 1);
+        IntStream alike = IntStream.of(16, 31, 32, 33, 64, 256, 65536, -16, -32, -64, 1 << 30);
+        IntStream far = IntStream.of(LOW, LOW + 1, HIGH - 1, HIGH);
+        IntStream all = IntStream.concat(near, IntStream.concat(alike, far));
+        return all.filter(i -> i < 0 || i >= n).distinct().toArray();
+    }
+
     /** A new object with blocks 0..n - 1. */
     static FlowSolver blocks(int n) {
         FlowSolver x = new FlowSolver();
@@ -58,5 +74,29 @@ final class Check {
             String call = "add(" + r[0] + ", " + r[1] + ", " + r[2] + ", " + r[3] + ", " + r[4] + ")";
             due(call + " is above 0", x.add(r[0], r[1], r[2], r[3], r[4]) > 0, true);
         }
+    }
+
+    /** What count answers for 0..3. */
+    void counts(FlowSolver x, String name, int... want) {
+        for (int what = 0; what < 4; what++) {
+            due(name + ": count(" + what + ")", x.count(what), want[what]);
+        }
+    }
+
+    /** What last answers of the latest run, and for others. */
+    void last(FlowSolver x, String name, int returned, int begun, int block) {
+        int[] want = {0, returned, begun, block, 0};
+        for (int what = -1; what <= 3; what++) {
+            due(name + ": last(" + what + ")", x.last(what), want[what + 1]);
+        }
+    }
+
+    /** A run with k begins k + 2 blocks: 0, then block 1 k times, then block 2, which returns k. */
+    FlowSolver rounds() {
+        FlowSolver x = blocks(3);
+        x.parameters(1);
+        adds(x, new int[][] {{0, 0, 1, 1, 0}, {1, 3, 0, 0, 1}, {1, 2, 2, 2, 1}});
+        exits(x, new int[][] {{0, 1, 0, 1, 0}, {1, 2, 0, 1, 2}, {2, 0, 2, 0, 0}});
+        return x;
     }
 }

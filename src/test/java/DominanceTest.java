@@ -1,11 +1,8 @@
 /** Promises 7 to 11 and what promise 18 says of them: dominators, frontiers, merges, loops. */
 public final class DominanceTest {
-    private static final int LOW = Integer.MIN_VALUE;
-    private static final int HIGH = Integer.MAX_VALUE;
     private static final Check check = new Check();
 
     public static void main(String[] args) {
-        notThere();
         diamond();
         chainAgainstTheNumbers();
         notMetBlocksDoNotCount();
@@ -51,21 +48,6 @@ public final class DominanceTest {
                 String call = name + ": dominates(" + a + ", " + b + ")";
                 check.due(call, x.dominates(a, b), (want[a] >> b & 1) != 0);
             }
-        }
-    }
-
-    private static void notThere() {
-        FlowSolver x = Check.blocks(2);
-        x.exit(0, 1, 0, 1, 0);
-        int[] outside = {-1, 2, 15, 16, 31, 32, 33, LOW, HIGH};
-        for (int b : outside) {
-            check.due("parent(" + b + ")", x.parent(b), -1);
-            check.due("dominates(0, " + b + ")", x.dominates(0, b), false);
-            check.due("dominates(" + b + ", 1)", x.dominates(b, 1), false);
-            check.due("dominates(" + b + ", itself)", x.dominates(b, b), false);
-            check.due("frontier(" + b + ")", x.frontier(b), 0);
-            check.due("merges(" + b + ")", x.merges(b), 0);
-            check.due("depth(" + b + ")", x.depth(b), -1);
         }
     }
 

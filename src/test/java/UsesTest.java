@@ -3,7 +3,6 @@ public final class UsesTest {
     private static final Check check = new Check();
 
     public static void main(String[] args) {
-        notThere();
         usesOfEachOp();
         usesOfEachExit();
         setBeforeUsed();
@@ -26,15 +25,6 @@ public final class UsesTest {
     private static void needed(FlowSolver x, String name, int... want) {
         for (int b = 0; b < want.length; b++) {
             check.due(name + ": needed(" + b + ")", x.needed(b), want[b]);
-        }
-    }
-
-    private static void notThere() {
-        FlowSolver x = Check.blocks(2);
-        int[] outside = {-1, 2, 15, 16, 32, Integer.MIN_VALUE, Integer.MAX_VALUE};
-        for (int b : outside) {
-            check.due("lives(" + b + ")", x.lives(b), -1);
-            check.due("needed(" + b + ")", x.needed(b), 0);
         }
     }
 
