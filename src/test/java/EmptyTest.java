@@ -87,9 +87,15 @@ public final class EmptyTest {
         return x;
     }
 
-    // Promise 6: "All blocks go"
+    // Promise 6: "All blocks go", and with them all that was answered of them before
     private static void clearedObject() {
         FlowSolver x = built();
+        check.counts(x, "built", 4, 4, 5, 5);
+        for (int b = 0; b < 4; b++) {
+            check.due("built: lives(" + b + ") is there", x.lives(b) > 0, true);
+            check.due("built: value(" + b + ", 4, true)", x.value(b, 4, true), 4);
+            check.due("built: dominates(0, " + b + ")", x.dominates(0, b), true);
+        }
         x.clear();
         noBlocks(x, "cleared");
         check.due("cleared: clear", x.clear(), 0);

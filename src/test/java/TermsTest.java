@@ -293,11 +293,14 @@ public final class TermsTest {
 
     // Promise 11: "(0 if it is not MET)"
     private static void depthOfABlockThatIsNotMet() {
-        FlowSolver x = Check.blocks(4);
-        check.exits(x, new int[][] {{0, 1, 0, 3, 0}, {1, 1, 0, 1, 0}, {2, 1, 0, 3, 0}, {3, 1, 0, 3, 0}});
-        check.due("a circle that is not MET", x.depth(1), 0);
-        check.due("leads into a loop, not MET", x.depth(2), 0);
-        check.due("the loop", x.depth(3), 1);
+        // 0 -> 3 -> 4 -> 3; 1 leads to itself, 2 and 5 lead to the head and past it into the loop
+        FlowSolver x = Check.blocks(6);
+        check.exits(x, new int[][] {
+            {0, 1, 0, 3, 0}, {1, 1, 0, 1, 0}, {2, 1, 0, 3, 0}, {3, 1, 0, 4, 0}, {4, 1, 0, 3, 0}, {5, 1, 0, 4, 0}});
+        int[] want = {0, 0, 0, 1, 1, 0};
+        for (int b = 0; b < 6; b++) {
+            check.due("beside blocks that are not MET: depth(" + b + ")", x.depth(b), want[b]);
+        }
     }
 
     // Promise 18: "what a block itself uses counts for what LIVES at its beginning"

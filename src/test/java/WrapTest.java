@@ -184,6 +184,11 @@ public final class WrapTest {
             check.due(a + " on both ways", x.value(3, 1, false), a);
             check.due(a + " from both ways", x.value(3, 2, false), a);
             check.due(a + " + 0", x.value(3, 3, true), a);
+            x.add(2, 0, 2, 3, 0);
+            check.due(a + " from one way, 3 from the other", x.value(3, 2, false), FlowSolver.VARIES);
+            x.add(1, 0, 2, 3, 0);
+            x.add(2, 0, 2, a, 0);
+            check.due("3 from one way, " + a + " from the other", x.value(3, 2, false), FlowSolver.VARIES);
             x.exit(0, 2, 1, 1, 2);
             check.due("BRANCH on " + a + ": OPEN", x.count(1), 3);
             check.due("BRANCH on " + a + ": the else edge", x.value(2, 1, false), FlowSolver.NOWHERE);
